@@ -71,7 +71,6 @@ public final class TangramBoard {
         lookTable = new Looks();
         filler = new Filler();
         parser = new Parser();
-        refresh();
     }
 
     private static Form[] makeForms() {
@@ -1016,6 +1015,10 @@ public final class TangramBoard {
         private final int[] waiting = new int[QUARTERS];
         private int waitingCount;
 
+        Silhouette() {
+            Arrays.fill(owner, NONE);
+        }
+
         void make(Form[] forms, Placing placing) {
             Arrays.fill(owner, NONE);
             Arrays.fill(region.rows, 0L);
@@ -1575,9 +1578,8 @@ public final class TangramBoard {
             skip(Token.SHAPE);
             x = readNumber(0, draft.width);
             y = readNumber(0, draft.height);
-            if (code == 0) {
-                Region region = draft.shapes[draft.shapeCount];
-                readOutline(region);
+            if (code == 0 && draft.shapeCount < MOST_SHAPES) {
+                readOutline(draft.shapes[draft.shapeCount]);
             }
         }
 
