@@ -860,7 +860,7 @@ public final class TangramBoard {
                 setCorner(corner, CORNERS[index], CORNERS[index + 1], piece, form);
             }
             for (int side = 0; side < corners; side++) {
-                int next = (side + 1) % MOST_CORNERS == corners ? 0 : (side + 1) % MOST_CORNERS;
+                int next = side + 1 < corners ? side + 1 : 0;
                 region.cross(cornerX[side], cornerY[side], cornerX[next], cornerY[next]);
             }
             region.measure();

@@ -144,6 +144,8 @@ public final class PromiseTest {
         error("board 8 8", 9, 1);
         error("board 8 8  ", 11, 1);
         error("boards 8 8;", 0, 1);
+        error("boardz 8 8;", 0, 1);
+        error(";".repeat(700), 0, 1);
         error("Board 8 8;", 0, 1);
         error("board\t8 8;", 5, 1);
         error("board 3 8;", 6, 2);
@@ -175,8 +177,29 @@ public final class PromiseTest {
         error("board 8 8; shape 8 8 s 1;", 23, 2);
         error("board 8 8; shape 0 0 e ;", 23, 1);
         error("board 8 8; shape 0 0 e 1 s 1;", 28, 3);
+        error("board 8 8; shape 0 0 e 1 s 1 w 1;", 32, 3);
+        error("board 8 8; shape 0 0 e 2 s 1 w 1 n 1;", 36, 3);
         error("board 8 8; shape 0 0 e 1 w 1;", 28, 3);
+        for (String word : new String[] {"board", "piece", "at", "turn", "flip", "shape", "1", ";", "x"}) {
+            error("board 8 8; shape 0 0 " + word + " 1 s 1 w 1 n 1;", 21, 1);
+        }
         error("board 8 8; shape 0 0 e 1 at;", 25, 1);
+        eightShapes();
+        textsThatAreCutOff();
+    }
+
+    private void textsThatAreCutOff() {
+        int[][] wanted = {{3, 0, 1}, {5, 5, 1}, {7, 6, 2}, {8, 8, 1}, {11, 11, 1}, {15, 13, 1}, {18, 18, 1}};
+        for (int[] w : wanted) {
+            TangramBoard b = new TangramBoard();
+            for (int[] r : Texts.rows("board 12 12; piece 0 at 0 0 turn 0;")) {
+                b.append(r[0], r[1], r[2], r[3], r[4]);
+            }
+            checks.due("3 parse(" + w[0] + ")", b.parse(w[0]), -2 - (8 * w[1] + w[2]));
+        }
+    }
+
+    private void eightShapes() {
         StringBuilder text = new StringBuilder("board 8 8;");
         for (int i = 0; i < 8; i++) {
             text.append("shape 0 0 e1s1nw1;");
@@ -216,6 +239,12 @@ public final class PromiseTest {
         checks.due("4 parts of the hourglass", Texts.board(HOURGLASS).size(4), 2);
         checks.due("4 loops of the hourglass", Texts.board(HOURGLASS).size(5), 2);
         checks.due("4 loops of the pinch", Texts.board(PINCH).size(5), 1);
+        // The quarters at the right and at the left rim are not next to each other.
+        TangramBoard rims = Texts.board("board 12 12; piece 5 at 11 0 turn 1; piece 6 at 0 1 turn 3;");
+        checks.due("4 parts at two rims", rims.size(4), 2);
+        checks.due("4 loops at two rims", rims.size(5), 2);
+        checks.due("4 borders at two rims", rims.loop(0, 1) + rims.loop(1, 1), 4);
+        checks.due("4 seams at two rims", rims.seams(5, 6, true) + rims.seams(6, 5, true), 0);
         checks.due("4 holes of the pinch", Texts.board(PINCH).size(6), 0);
     }
 
@@ -332,6 +361,10 @@ public final class PromiseTest {
         checks.due("11 inner() of the ring", Texts.board(RING).inner(), 0);
         b.takeOff(3);
         checks.due("11 inner() beside a hole", b.inner(), 0);
+        // The parallelogram and the small triangle lie along the long side of piece 0, pieces 1 and 2 along the others.
+        TangramBoard large = Texts.board("board 8 8; piece 0 at 2 2 turn 0; piece 5 at 2 1 turn 2; "
+            + "piece 4 at 3 1 turn 0; piece 2 at 2 2 turn 3; piece 1 at 4 2 turn 1;");
+        checks.due("11 inner() round piece 0", large.inner(), 1);
     }
 
     private void promise12Loop() {
