@@ -247,6 +247,7 @@ public final class ChangeBoundaryTest {
         change("30 no piece, shift(99, -99)", b, true, o -> o.shift(99, -99));
         change("30 no piece, shift far", b, true, o -> o.shift(Integer.MAX_VALUE, Integer.MIN_VALUE));
         undoAll("30 far", b);
+        shiftEachPiece();
         TangramBoard full = Texts.board(SQUARE);
         change("33 solve(0)", full, true, o -> o.solve(0));
         for (int d = 0; d < 9; d++) {
@@ -258,6 +259,22 @@ public final class ChangeBoundaryTest {
         }
         change("30 a full board, shift(0, 0)", full, true, o -> o.shift(0, 0));
         undoAll("30 full", full);
+    }
+
+    private void shiftEachPiece() {
+        for (int piece = 0; piece < 7; piece++) {
+            TangramBoard b = Texts.board("board 12 12; piece " + piece + " at 0 0 turn 0;");
+            int x = 12 - b.piece(piece, 4);
+            int y = 12 - b.piece(piece, 5);
+            nothing("30 piece " + piece + ", shift(-1, 0)", b, false, o -> o.shift(-1, 0));
+            nothing("30 piece " + piece + ", shift(0, -1)", b, false, o -> o.shift(0, -1));
+            nothing("30 piece " + piece + ", too far to the right", b, false, o -> o.shift(x + 1, 0));
+            nothing("30 piece " + piece + ", too far down", b, false, o -> o.shift(0, y + 1));
+            change("30 piece " + piece + ", as far as it can", b, true, o -> o.shift(x, y));
+            nothing("30 piece " + piece + ", shift(1, 0)", b, false, o -> o.shift(1, 0));
+            nothing("30 piece " + piece + ", shift(0, 1)", b, false, o -> o.shift(0, 1));
+            undoAll("30 piece " + piece, b);
+        }
     }
 
     // ---- promises 31 to 33

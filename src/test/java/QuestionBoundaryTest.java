@@ -32,6 +32,7 @@ public final class QuestionBoundaryTest {
         test.inner();
         test.loop();
         test.edge();
+        test.edgesAtTheLastCorner();
         test.orderOfLoops();
         test.perimeterAndFullness();
         test.looks();
@@ -39,6 +40,7 @@ public final class QuestionBoundaryTest {
         test.shape();
         test.hasQuarter();
         test.alike();
+        test.alikeFromRimToRim();
         test.findAndKinds();
         test.missing();
         test.ways();
@@ -287,6 +289,11 @@ public final class QuestionBoundaryTest {
         b.takeOff(4);
         checks.due("9 seams of an off piece", b.seams(4, 5, true) + b.seams(5, 4, true) + b.seams(4, 0, false), 0);
         checks.due("9 one piece and itself, off", b.seams(4, 4, true) + b.seams(4, 4, false), 0);
+        // In the cells of the first and of the last quarter.
+        TangramBoard ends = Texts.board("board 12 12; piece 5 at 10 11 turn 2; piece 6 at 11 10 turn 1;");
+        checks.due("9 seams of the last quarter", ends.seams(5, 6, false) + " " + ends.seams(6, 5, false), "2 2");
+        ends = Texts.board("board 12 12; piece 5 at 0 0 turn 0; piece 6 at 0 0 turn 3;");
+        checks.due("9 seams of the first quarter", ends.seams(5, 6, false) + " " + ends.seams(6, 5, false), "2 2");
         TangramBoard empty = new TangramBoard();
         checks.due("9 two off pieces", empty.seams(0, 1, true) + empty.seams(0, 1, false), 0);
         checks.due("9 a point in common", Texts.board(ONE_POINT).seams(5, 6, true), 0);
@@ -328,6 +335,11 @@ public final class QuestionBoundaryTest {
         b.undo();
         b.takeOff(6);
         checks.due("11 beside the rim of what is left", b.inner(), 32);
+        // The last piece in the place of its twin.
+        TangramBoard last = Texts.board("board 4 4; piece 0 at 0 0 turn 0; piece 1 at 0 0 turn 3; "
+            + "piece 2 at 2 2 turn 1 flip; piece 3 at 1 2 turn 0; piece 4 at 3 0 turn 1; piece 6 at 2 1 turn 1; "
+            + "piece 5 at 0 3 turn 2;");
+        checks.due("11 the last piece", last.inner(), 8 + 64);
     }
 
     // ---- promises 12 and 13
@@ -350,6 +362,16 @@ public final class QuestionBoundaryTest {
         checks.throwsDue("12 the hole is filled", () -> b.loop(1, 0), NO_ELEMENT);
         TangramBoard rim = Texts.board("board 12 12; piece 0 at 8 10 turn 2;");
         numbers("12 at the last corner", new int[] {3, 4, 8, 0, 20, 20}, what -> rim.loop(0, what));
+        // A hole comes in the place of a loop that went round much more.
+        TangramBoard two = Texts.board("board 9 9; shape 0 0 e4s4w4n4; piece 0 at 0 0 turn 0; piece 1 at 5 5 turn 2;");
+        checks.due("12 no hole", two.loop(1, 3), 0);
+        two.solve(0);
+        two.takeOff(5);
+        checks.due("12 a hole in its place", two.loop(1, 3), 1);
+        checks.due("4 holes", two.size(6), 1);
+        two.undo();
+        two.undo();
+        checks.due("12 no hole again", two.loop(1, 3) + two.size(6), 0);
     }
 
     private void edge() {
@@ -382,6 +404,28 @@ public final class QuestionBoundaryTest {
             checks.throwsDue("13 edge(" + none + ", 0, 0)", () -> b.edge(none, 0, 0), NO_ELEMENT);
             checks.throwsDue("13 edge(" + none + ", -1, -1)", () -> b.edge(none, -1, -1), NO_ELEMENT);
         }
+    }
+
+    private void edgesAtTheLastCorner() {
+        TangramBoard b = Texts.board("board 12 12; shape 8 8 e4s4w4n4; piece 0 at 8 10 turn 2;");
+        int[][] large = {{1, 4, 20, 20, 2}, {4, 4, 24, 24, 3}, {7, 4, 16, 24, 3}};
+        for (int edge = 0; edge < 3; edge++) {
+            int e = edge;
+            numbers("13 edge " + e + " at the last corner", large[e], what -> b.edge(0, e, what));
+        }
+        b.solve(0);
+        b.takeOff(5);
+        int[][] square = {{0, 4, 16, 16, 2}, {2, 4, 24, 16, 2}, {4, 4, 24, 24, 2}, {6, 4, 16, 24, 2}};
+        int[][] hole = {{3, 2, 22, 18, -3}, {1, 2, 20, 20, -2}, {6, 2, 22, 22, -3}};
+        for (int edge = 0; edge < 4; edge++) {
+            int e = edge;
+            numbers("13 edge " + e + " of the last square", square[e], what -> b.edge(0, e, what));
+        }
+        for (int edge = 0; edge < 3; edge++) {
+            int e = edge;
+            numbers("13 edge " + e + " of the last hole", hole[e], what -> b.edge(1, e, what));
+        }
+        numbers("12 the last hole", new int[] {3, 2, 4, 1, 22, 18}, what -> b.loop(1, what));
     }
 
     private void orderOfLoops() {
@@ -450,6 +494,8 @@ public final class QuestionBoundaryTest {
         b.takeOff(3);
         checks.due("17 a hollow that touches the rim at a point", b.isSimple(), false);
         checks.due("17 its parts, loops and holes", b.size(4) + " " + b.size(5) + " " + b.size(6), "1 1 0");
+        b.undo();
+        checks.due("17 filled again", b.isSimple(), true);
         for (int piece = 0; piece < 7; piece++) {
             b.takeOff(piece);
         }
@@ -529,6 +575,27 @@ public final class QuestionBoundaryTest {
         }
         checks.throwsDue("20 alike(6) of 6 shapes", () -> b.alike(6), NO_INDEX);
         checks.throwsDue("20 alike(0) of none", () -> new TangramBoard().alike(0), NO_INDEX);
+    }
+
+    private void alikeFromRimToRim() {
+        // A parallelogram at one rim and a small triangle at the other one: 2 by 12 cells.
+        TangramBoard b = Texts.board("board 12 12; piece 4 at 0 0 turn 1; piece 5 at 0 11 turn 0;");
+        checks.due("16 looks", b.looks(), 8);
+        b.keep();
+        b.shift(10, 0);
+        checks.due("20 shifted to the other rim", b.alike(0), 2);
+        b.turn(5);
+        b.place(5, 10, 11, 2, false);
+        checks.due("20 another last row", b.alike(0), 0);
+        b.takeOff(5);
+        b.place(4, 1, 0, 1, true);
+        b.place(5, 0, 11, 0, false);
+        checks.due("20 flipped", b.alike(0), 4);
+        b.place(4, 9, 5, 0, false);
+        b.place(5, 0, 5, 1, false);
+        checks.due("20 turned, 12 by 2 cells", b.alike(0), 3);
+        b.place(4, 9, 5, 0, true);
+        checks.due("20 another last column", b.alike(0), 0);
     }
 
     private void findAndKinds() {
