@@ -1,4 +1,4 @@
-/** Compares long runs of calls with the answers of the plain model. */
+/** Compares long runs of calls with the answers of the plain model; arguments: how many runs, the first one. */
 public final class ModelTest {
     private static final int RUNS = 400;
     private static final int CALLS = 60;
@@ -18,7 +18,8 @@ public final class ModelTest {
     public static void main(String[] args) {
         Checks checks = new Checks();
         int runs = args.length > 0 ? Integer.parseInt(args[0]) : RUNS;
-        for (int run = 0; run < runs && checks.wrongAnswers() == 0; run++) {
+        int first = args.length > 1 ? Integer.parseInt(args[1]) : 0;
+        for (int run = first; run < first + runs && checks.wrongAnswers() == 0; run++) {
             new ModelTest(checks, run).go();
         }
         checks.end();
